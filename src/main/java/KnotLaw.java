@@ -8,7 +8,7 @@ public final class KnotLaw {
     private static final int MOST_FORCE = 99;
     private static final int LAST_DAY = 9999;
     private static final int DAYS_FORETOLD = 60;
-    private static final int PARTS = 10;
+    private static final int TENTHS = 10;
 
     private static final int KINDS = 5;
     private static final int HITCH = 0;
@@ -307,19 +307,20 @@ public final class KnotLaw {
     }
 
     public int rotten(int clause, int f, int c, int what) {
-        if (!isClause(clause) || !isForce(f) || !isWithin(c, 0, PARTS) || !isWithin(what, 0, 1)) {
+        if (!isClause(clause) || !isForce(f) || !isWithin(c, 0, TENTHS) || !isWithin(what, 0, 1)) {
             return BAD;
         }
         if (!has(rope.tied, clause)) {
             return 1;
         }
         int above = c;
-        int below = PARTS;
+        int below = TENTHS;
         if (rope.firmOf(clause) <= f) {
+            // Sound itself, it falls only if all that bar it are rotten: what bars those is of no account.
             int bars = Integer.bitCount(rope.told.barred[clause] & rope.tied);
-            int all = powerOf(PARTS, bars);
-            above = c * all + (PARTS - c) * powerOf(c, bars);
-            below = PARTS * all;
+            int all = powerOf(TENTHS, bars);
+            above = c * all + (TENTHS - c) * powerOf(c, bars);
+            below = TENTHS * all;
         }
         return what == 0 ? lowestPartOf(above, below) : lowestPartOf(below, above);
     }

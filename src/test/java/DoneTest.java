@@ -14,6 +14,7 @@ public final class DoneTest {
         driftIsManyActs();
         undo();
         undoForgets();
+        undoOfEach();
         seed();
         C.end();
     }
@@ -113,24 +114,19 @@ public final class DoneTest {
         C.due("14 day", x.count(1), 9999);
     }
 
-    /** From 1 the draws are 1103527590 (wet, a pull of 24), 377401575 (dry, 19), 662824084 (wet, 6). */
+    /** From 1 the draws are 1103527590, 377401575, 662824084, 1147902781, 2035015474, 368800899, 1508029952. */
     private static void drift() {
-        long draw = 1;
-        int[] wet = {0, 0, 0};
-        int[] force = {0, 0, 0};
-        for (int k = 0; k < 3; k++) {
-            draw = (draw * 1103515245L + 12345L) % (1L << 31);
-            wet[k] = draw / 65536 % 3 == 0 ? 1 : 0;
-            force[k] = (int) (draw / 128 % 30);
-        }
-        KnotLaw x = Checks.told("h12,h13,h12/0,s5/1,h20");
-        KnotLaw y = Checks.told("h12,h13,h12/0,s5/1,h20");
-        for (int k = 0; k < 3; k++) {
+        int[] wet = {0, 0, 1, 0, 0, 0, 1};
+        int[] force = {29, 19, 13, 0, 28, 27, 4};
+        String text = "s20,h13,l13/1,s5/1,h20/2,l6/3,g20/4";
+        KnotLaw x = Checks.told(text);
+        KnotLaw y = Checks.told(text);
+        for (int k = 0; k < 7; k++) {
             C.due("14 drift", x.drift(1), likeByHand(y, wet[k], force[k]));
             C.due("14 weather", x.count(2), wet[k]);
             C.due("14 day", x.count(1), k + 1);
         }
-        C.due("14 the draw", x.seed(0), draw);
+        C.due("14 the draw", x.seed(0), 1508029952);
         for (int bad : new int[] {-1, 0, 41, MIN, MAX}) {
             C.due("14 n " + bad, x.drift(bad), KnotLaw.BAD);
         }
@@ -139,8 +135,7 @@ public final class DoneTest {
         C.due("14 from 0", x.seed(MAX), 12345);
         x.drift(1);
         C.due("14 from the greatest", x.seed(1), (MAX * 1103515245L + 12345L) % (1L << 31));
-        KnotLaw z = Checks.told("h12,h13,h12/0,s5/1,h20");
-        C.due("14 three at once", z.drift(3), y.count(3));
+        C.due("14 seven at once", Checks.told(text).drift(7), y.count(3));
         // The pull comes on the day that goes by, with a granny being void on day 0.
         KnotLaw w = Checks.told("g20");
         w.seed(0);
@@ -214,6 +209,35 @@ public final class DoneTest {
         }
         C.due("15 older ones are lost", x.undo(), KnotLaw.NONE);
         C.due("15 day", x.count(1), 6);
+    }
+
+    private static void undoOfEach() {
+        KnotLaw x = Checks.told("h5,h2,h9");
+        x.cut(0);
+        x.cut(1);
+        x.wet(1);
+        x.days(4);
+        x.pull(99);
+        C.due("15 pull", x.undo(), 4);
+        stateIs(x, 4, 2, 4, 1);
+        x.wet(0);
+        C.due("15 dry", x.undo(), 4);
+        stateIs(x, 4, 2, 4, 1);
+        C.due("15 days", x.undo(), 3);
+        stateIs(x, 4, 2, 0, 1);
+        C.due("15 wet", x.undo(), 2);
+        stateIs(x, 4, 2, 0, 0);
+        C.due("15 cut", x.undo(), 1);
+        stateIs(x, 6, 1, 0, 0);
+        C.due("15 cut", x.undo(), 0);
+        stateIs(x, 7, 0, 0, 0);
+    }
+
+    private static void stateIs(KnotLaw x, int tied, int wars, int day, int wet) {
+        C.due("15 tied", x.count(3), tied);
+        C.due("15 wars", x.count(6), wars);
+        C.due("15 day", x.count(1), day);
+        C.due("15 wet", x.count(2), wet);
     }
 
     private static void seed() {

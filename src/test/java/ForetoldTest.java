@@ -92,6 +92,7 @@ public final class ForetoldTest {
         C.due("20 what is undone asks for nothing", x.needs(3), 0);
         C.due("20 tied ones alone", x.needs(4), Checks.set(2, 3));
         C.due("20 nothing is changed", x.count(3), 29);
+        C.due("20 of the last", Checks.told("h1,h1,h1/1,h1,h1/2,h1,h1,h1/46").needs(7), Checks.set(1, 2, 4, 6));
     }
 
     private static void deep() {
@@ -105,6 +106,7 @@ public final class ForetoldTest {
             x.cut(c);
         }
         C.due("21 nothing", x.deep(), 0);
+        C.due("21 the first alone", Checks.told("h5").deep(), 1);
         C.due("21 eight", Checks.told("h1,h1/0,h1/1,h1/2,h1/3,h1/4,h1/5,h1/6").deep(), 8);
     }
 
@@ -336,6 +338,26 @@ public final class ForetoldTest {
         x.tie(0);
         C.due("30 the later one", x.restore(), 1);
         C.due("30 tied", x.count(3), 2);
+        imageKeepsActs();
+    }
+
+    private static void imageKeepsActs() {
+        KnotLaw x = Checks.told("h5,h9,h2");
+        x.cut(1);
+        x.days(8);
+        x.image();
+        for (int k = 0; k < 9; k++) {
+            x.days(10);
+        }
+        x.restore();
+        C.due("30 first act", x.undo(), 1);
+        C.due("30 day", x.count(1), 0);
+        C.due("30 tied", x.count(3), 5);
+        C.due("30 second act", x.undo(), 0);
+        C.due("30 tied", x.count(3), 7);
+        x.restore();
+        C.due("30 the image keeps its acts", x.undo(), 1);
+        C.due("30 day", x.count(1), 0);
     }
 
     private static void wrongClauses() {
