@@ -245,7 +245,7 @@ public final class KnotLaw {
         if (!isParty(party) || !isWithin(what, 0, 1)) {
             return BAD;
         }
-        int set = foretold.neededFor(rope.told.owedBy(party) & rope.tied);
+        int set = foretold.neededFor(rope.told.owedBy(party));
         return what == 0 ? Integer.bitCount(set) : set;
     }
 
@@ -757,9 +757,10 @@ public final class KnotLaw {
             this.rope = rope;
         }
 
-        /** A set and all that is tied and has to be undone ahead of any in it. */
+        /** What is tied of a set, and all that is tied and has to be undone ahead of any of these. */
         int neededFor(int set) {
-            int all = set;
+            // One that is undone already waits for nothing, even if what bars it is tied again.
+            int all = set & rope.tied;
             // What bars a clause has a lesser number, so one way down meets every bar.
             for (int c = MOST_CLAUSES - 1; c >= 0; c--) {
                 if (has(all, c)) {

@@ -92,6 +92,20 @@ public final class ForetoldTest {
         C.due("20 what is undone asks for nothing", x.needs(3), 0);
         C.due("20 tied ones alone", x.needs(4), Checks.set(2, 3));
         C.due("20 nothing is changed", x.count(3), 29);
+        x.cut(4);
+        C.due("20 of one that is undone, barred by tied ones", x.needs(4), 0);
+        x.tie(4);
+        C.due("20 of one that is tied again", x.needs(4), Checks.set(2, 3));
+        x.tie(1);
+        C.due("20 of one whose bars are tied again", x.needs(4), Checks.set(0, 1, 2, 3));
+        KnotLaw y = Checks.told("h1,h1/0");
+        y.pull(1);
+        y.pull(1);
+        y.tie(0);
+        C.due("20 of one undone, its bar tied again", y.needs(1), 0);
+        C.due("18 likewise", y.pulls(1, 0), 0);
+        C.due("19 likewise", y.force(1, 1), 0);
+        C.due("22 likewise", y.frees(0, 1), 1);
         C.due("20 of the last", Checks.told("h1,h1,h1/1,h1,h1/2,h1,h1,h1/46").needs(7), Checks.set(1, 2, 4, 6));
     }
 

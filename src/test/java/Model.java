@@ -410,7 +410,10 @@ final class Model {
     }
 
     int needs(int c) {
-        return noClause(c) ? BAD : bits(must(c));
+        if (noClause(c)) {
+            return BAD;
+        }
+        return now.knots.get(c).tied ? bits(must(c)) : 0;
     }
 
     private int rowTo(int c) {
