@@ -11,6 +11,7 @@ public final class DoneTest {
         wet();
         days();
         drift();
+        drawsAtTheEdges();
         driftIsManyActs();
         undo();
         undoForgets();
@@ -147,6 +148,25 @@ public final class DoneTest {
         y.pull(force);
         y.days(1);
         return y.count(3);
+    }
+
+    /** Draws whose part by 65536 has just become, or is about to become, another number; and those by 128. */
+    private static void drawsAtTheEdges() {
+        int[] seeds = {1051108995, 1340914462, 995212062, 705406595, 632137347, 921942814};
+        int[] draws = {196608, 196607, 262143, 262144, 2147352576, 2147352575};
+        int[] wet = {1, 0, 1, 0, 1, 0};
+        int[] force = {6, 5, 7, 8, 12, 11};
+        for (int k = 0; k < seeds.length; k++) {
+            // Twice as firm if it is wet, so the first falls by just this pull and the second just not.
+            int holds = force[k] / (1 + wet[k]);
+            KnotLaw x = new KnotLaw();
+            x.clause(0, holds, 0, 0);
+            x.clause(0, holds + 1, 0, 0);
+            x.seed(seeds[k]);
+            C.due("14 a pull by draw " + draws[k], x.drift(1), 2);
+            C.due("14 the weather by draw " + draws[k], x.count(2), wet[k]);
+            C.due("14 draw " + draws[k], x.seed(0), draws[k]);
+        }
     }
 
     private static void driftIsManyActs() {
