@@ -269,15 +269,9 @@ public final class ClausesEdgesTest {
         int[] places = {0, 0, 8, 14, 23, 24, 1, 7};
         for (int k = 0; k < late.length; k++) {
             String text = late[k];
-            T.unchanged("agreement \"" + text + "\"", ClausesEdgesTest::midwayWithoutTape, x -> Checks.tell(x, text),
+            T.unchanged("agreement \"" + text + "\"", () -> Twins.midway(""), x -> Checks.tell(x, text),
                 -20 - places[k]);
         }
-    }
-
-    private static KnotLaw midwayWithoutTape() {
-        KnotLaw x = Twins.midway();
-        x.agreement();
-        return x;
     }
 
     private static void howManyClauses() {

@@ -21,6 +21,7 @@ public final class TermsEdgesTest {
     private static void firstLines() {
         S.holds("Terms", "of several the first that a call names", TermsEdgesTest::firstThatIsNamed);
         S.holds("Terms", "BAD -1 (a number is not as told, there is no such thing)", TermsEdgesTest::answersBelowZero);
+        S.holds("Terms", "CAST -12 (of SHEETS another LANE)", TermsEdgesTest::anotherLane);
         S.holds("Terms", "(NULL, CAST, INDEX, SIZE in this order)", TermsEdgesTest::machinesOrder);
         S.holds("Terms", "What is refused changes nothing", TermsEdgesTest::refusedChangesNothing);
         S.holds("Terms", "What is refused changes nothing, but as told.", TermsEdgesTest::faultEmptiesTheTape);
@@ -123,6 +124,18 @@ public final class TermsEdgesTest {
         }
     }
 
+    private static void anotherLane() {
+        KnotLaw x = Twins.midway();
+        for (int lane = 1; lane < 4; lane++) {
+            S.due("felt", x.felt(0, 0, lane, 0, 1, 0), -12);
+            S.due("film", x.film(0, 1, 0, lane, 0), -12);
+            S.due("item", x.item(0, lane, 0, 0), -12);
+        }
+        S.due("copy", x.copy(0, 0, 1, 0, 1), -12);
+        S.due("copy", x.copy(1, 0, 0, 0, 1), -12);
+        S.due("the same LANE", x.copy(0, 0, 3, 0, 1), 1);
+    }
+
     private static void machinesOrder() {
         KnotLaw x = Twins.midway();
         S.due("felt: NULL, CAST, INDEX", x.felt(0, 2, 0, -1, 1, 0), -11);
@@ -188,9 +201,7 @@ public final class TermsEdgesTest {
 
     private static KnotLaw nothingToTakeBack() {
         KnotLaw x = Twins.midway();
-        for (int k = 0; k < 4; k++) {
-            x.undo();
-        }
+        x.clause(0, 1, 0, 0);
         return x;
     }
 
@@ -264,7 +275,7 @@ public final class TermsEdgesTest {
     }
 
     private static void faultEmptiesTheTape() {
-        T.unchangedBut("agreement()", Twins::midway, KnotLaw::agreement, -28, List.of("the tape"));
+        T.unchangedBut("agreement()", Twins::midway, KnotLaw::agreement, -28, List.of("the tape", "the tape's letters"));
         KnotLaw x = Twins.midway();
         x.agreement();
         S.due("the first letter behind a fault", x.type('h'), 1);

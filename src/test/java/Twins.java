@@ -15,8 +15,12 @@ final class Twins {
         this.sentences = sentences;
     }
 
-    /** Five clauses, three of them undone; three acts, an image, half a text, sheets of bytes, ints, nothing, bytes. */
+    /** Five clauses, three of them undone; four acts, an image, half a text, sheets of bytes, ints, nothing, bytes. */
     static KnotLaw midway() {
+        return midway("s3,l4/0@");
+    }
+
+    static KnotLaw midway(String tape) {
         KnotLaw x = Checks.told("h5,s3/0@1,l9@2,o4/2@3,g20/13");
         x.seed(77);
         x.days(3);
@@ -29,7 +33,7 @@ final class Twins {
         Rows.lay(x, 0, 0, 1, 2, 3, 4, 5, 6);
         Rows.lay(x, 1, 2, 1, 2, 3, 4, 5, 6, 7, 8, 9, 10, 11, 12, 13, 14, 15, 16, 17, 18, 19, 1, 2, 3, 4, 5);
         Rows.lay(x, 3, 0, 5, 1, 100, 0);
-        Rows.type(x, "s3,l4/0@");
+        Rows.type(x, tape);
         return x;
     }
 
@@ -82,6 +86,7 @@ final class Twins {
         all.add(new Part("the image's rope", x -> x.restore() + " " + rope(x)));
         all.add(new Part("the image's acts", x -> x.restore() + " " + acts(x)));
         all.add(new Part("the tape", x -> x.type('2') + " " + x.agreement() + " " + rope(x)));
+        all.add(new Part("the tape's letters", x -> x.agreement() + " " + rope(x)));
         for (int s = 0; s < 4; s++) {
             int sheet = s;
             all.add(new Part("sheet " + s, x -> Rows.told(x, sheet)));
