@@ -320,6 +320,9 @@ public final class ClausesEdgesTest {
         S.due("1", Checks.told("h1").of(0, 1), 1);
         S.due("20", Checks.told("h20").of(0, 1), 20);
         fault("h-1", 1);
+        fault("h/1", 1);
+        fault("h:1", 1);
+        fault("h1:", 2);
     }
 
     private static void oneDigitOrMore() {
@@ -333,6 +336,11 @@ public final class ClausesEdgesTest {
         S.due("all of them", x.of(7, 2), 127);
         S.due("none of them", Checks.told("h1,h2").of(1, 2), 0);
         fault("h1,h2/0/0", 7);
+        // The letters just below 0 and just above 9.
+        fault("h1,h2//0", 6);
+        fault("h1,h2/:", 6);
+        fault(EIGHT + "//", 24);
+        fault(EIGHT + "/:", 24);
     }
 
     private static void digitsRise() {
@@ -374,6 +382,7 @@ public final class ClausesEdgesTest {
         fault("h1@@1", 3);
         fault("h1@x", 3);
         fault("h1@/", 3);
+        fault("h1@:", 3);
         fault("h1@00", 4);
         fault("h1@1@1", 4);
         fault("h1,h1@1/0", 7);

@@ -575,6 +575,8 @@ public final class ForetoldEdgesTest {
         likely("by 9", x, new int[] {7, 1, 9}, 94782969, 100000000);
         likely("by 5: twos alone", x, new int[] {7, 1, 5}, 129, 256);
         likely("by 2: fives alone", x, new int[] {7, 1, 2}, 78129, 390625);
+        // Above has one five more than below: 625 of 1000.
+        likely("fives are left above", Checks.told("h1,h1,h1/01"), new int[] {2, 1, 5}, 5, 8);
         likely("none: 0 by 1", x, new int[] {7, 1, 0}, 0, 1);
         likely("all: 1 by 1", x, new int[] {7, 1, 10}, 1, 1);
     }
