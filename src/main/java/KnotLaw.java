@@ -27,7 +27,7 @@ public final class KnotLaw {
     public KnotLaw() {
         rope = new Rope();
         kept = new Rope();
-        foretold = new Foretold(rope);
+        foretold = new Foretold();
         reader = new Reader();
         sheets = new Sheets();
         isKept = false;
@@ -216,7 +216,7 @@ public final class KnotLaw {
         if (!has(rope.tied, clause)) {
             return 0;
         }
-        return foretold.firmestUpTo(clause) <= f ? foretold.depthOf(clause) : NONE;
+        return rope.firmestUpTo(clause) <= f ? foretold.depthOf(rope, clause) : NONE;
     }
 
     public int force(int clause, int n) {
@@ -226,26 +226,26 @@ public final class KnotLaw {
         if (!has(rope.tied, clause)) {
             return 0;
         }
-        int least = foretold.firmestUpTo(clause);
-        return least <= MOST_FORCE && foretold.depthOf(clause) <= n ? least : NONE;
+        int least = rope.firmestUpTo(clause);
+        return least <= MOST_FORCE && foretold.depthOf(rope, clause) <= n ? least : NONE;
     }
 
     public int needs(int clause) {
         if (!isClause(clause)) {
             return BAD;
         }
-        return foretold.neededFor(1 << clause) & ~(1 << clause);
+        return rope.neededFor(1 << clause) & ~(1 << clause);
     }
 
     public int deep() {
-        return foretold.deepest();
+        return foretold.deepest(rope);
     }
 
     public int frees(int party, int what) {
         if (!isParty(party) || !isWithin(what, 0, 1)) {
             return BAD;
         }
-        int set = foretold.neededFor(rope.told.owedBy(party));
+        int set = rope.neededFor(rope.told.owedBy(party));
         return what == 0 ? Integer.bitCount(set) : set;
     }
 
@@ -254,7 +254,7 @@ public final class KnotLaw {
             return BAD;
         }
         if (k == -1) {
-            return foretold.countOrders();
+            return foretold.countOrders(rope);
         }
         // What bars a clause has a lesser number, so the tied ones by rising numbers are the first order.
         return nthOf(rope.tied, k);
@@ -267,7 +267,7 @@ public final class KnotLaw {
         if (!has(rope.tied, clause) || !has(rope.tied, other)) {
             return NOT;
         }
-        return what == 0 ? foretold.countOrdersWith(clause, other) : foretold.countOrders();
+        return what == 0 ? foretold.countOrdersWith(rope, clause, other) : foretold.countOrders(rope);
     }
 
     public int game(int lose, int what) {
@@ -705,6 +705,31 @@ public final class KnotLaw {
             return set;
         }
 
+        /** What is tied of a set, and all that is tied and has to be undone ahead of any of these. */
+        int neededFor(int set) {
+            // One that is undone already waits for nothing, even if what bars it is tied again.
+            int all = set & tied;
+            // What bars a clause has a lesser number, so one way down meets every bar.
+            for (int c = MOST_CLAUSES - 1; c >= 0; c--) {
+                if (has(all, c)) {
+                    all |= told.barred[c] & tied;
+                }
+            }
+            return all;
+        }
+
+        /** How firm the firmest is that has to be undone until a clause is undone, itself too. */
+        int firmestUpTo(int clause) {
+            int all = neededFor(1 << clause);
+            int most = 0;
+            for (int c = 0; c < MOST_CLAUSES; c++) {
+                if (has(all, c)) {
+                    most = Math.max(most, firmOf(c));
+                }
+            }
+            return most;
+        }
+
         int undoBy(int f) {
             weigh();
             int falling = fallsAmong(tied, f);
@@ -748,48 +773,18 @@ public final class KnotLaw {
 
     /** What the bars among the tied clauses tell; its rows are made once and used by every call. */
     private static final class Foretold {
-        final Rope rope;
         final int[] depths = new int[MOST_CLAUSES];
         final int[] bars = new int[MOST_CLAUSES];
         final int[] ways = new int[1 << MOST_CLAUSES];
 
-        Foretold(Rope rope) {
-            this.rope = rope;
-        }
-
-        /** What is tied of a set, and all that is tied and has to be undone ahead of any of these. */
-        int neededFor(int set) {
-            // One that is undone already waits for nothing, even if what bars it is tied again.
-            int all = set & rope.tied;
-            // What bars a clause has a lesser number, so one way down meets every bar.
-            for (int c = MOST_CLAUSES - 1; c >= 0; c--) {
-                if (has(all, c)) {
-                    all |= rope.told.barred[c] & rope.tied;
-                }
-            }
-            return all;
-        }
-
-        /** How firm the firmest is that has to be undone until a clause is undone, itself too. */
-        int firmestUpTo(int clause) {
-            int all = neededFor(1 << clause);
-            int most = 0;
-            for (int c = 0; c < MOST_CLAUSES; c++) {
-                if (has(all, c)) {
-                    most = Math.max(most, rope.firmOf(c));
-                }
-            }
-            return most;
-        }
-
         /** Of how many tied clauses, each barred by the one ahead, the longest row is that ends with this one. */
-        int depthOf(int clause) {
-            fillDepths();
+        int depthOf(Rope rope, int clause) {
+            fillDepths(rope);
             return depths[clause];
         }
 
-        int deepest() {
-            fillDepths();
+        int deepest(Rope rope) {
+            fillDepths(rope);
             int most = 0;
             for (int c = 0; c < MOST_CLAUSES; c++) {
                 most = Math.max(most, depths[c]);
@@ -797,7 +792,7 @@ public final class KnotLaw {
             return most;
         }
 
-        private void fillDepths() {
+        private void fillDepths(Rope rope) {
             for (int c = 0; c < MOST_CLAUSES; c++) {
                 depths[c] = has(rope.tied, c) ? 1 + deepestAmong(rope.told.barred[c] & rope.tied) : 0;
             }
@@ -813,26 +808,26 @@ public final class KnotLaw {
             return most;
         }
 
-        int countOrders() {
-            fillBars();
-            return countWays();
+        int countOrders(Rope rope) {
+            fillBars(rope);
+            return countWays(rope.tied);
         }
 
         /** In how many orders one clause is undone ahead of another: as many as if it barred that one. */
-        int countOrdersWith(int sooner, int later) {
-            fillBars();
+        int countOrdersWith(Rope rope, int sooner, int later) {
+            fillBars(rope);
             bars[later] |= 1 << sooner;
-            return countWays();
+            return countWays(rope.tied);
         }
 
-        private void fillBars() {
+        private void fillBars(Rope rope) {
             for (int c = 0; c < MOST_CLAUSES; c++) {
                 bars[c] = rope.told.barred[c] & rope.tied;
             }
         }
 
-        private int countWays() {
-            int whole = rope.tied & ways.length - 1;
+        private int countWays(int tied) {
+            int whole = tied & ways.length - 1;
             ways[0] = 1;
             for (int set = 1; set <= whole; set++) {
                 if ((set & ~whole) == 0) {
