@@ -5,7 +5,7 @@ import java.lang.reflect.Modifier;
 import java.util.Set;
 import java.util.TreeSet;
 
-/** The public face is that of the document and no more; rules 1 and 5 of LANGUAGE.md, as far as can be seen here. */
+/** The public face is that of the document and no more; rules 1, 5 and 12 of LANGUAGE.md, as far as can be seen. */
 public final class FaceTest {
     private static final String[] FACE = {
         "int clause(int,int,int,int)", "int of(int,int)", "int party(int,int)", "int owe(int,int)", "int type(int)",
@@ -84,6 +84,9 @@ public final class FaceTest {
             }
             for (Field field : one.getDeclaredFields()) {
                 staticIsFinal(field);
+            }
+            for (Constructor<?> made : one.getDeclaredConstructors()) {
+                C.due("rule 12, nothing is handed out to it: " + made, made.getParameterCount(), 0);
             }
         }
     }
